@@ -147,6 +147,11 @@ public final class PromisesTest {
         c.due("years", x.older(0, 7), 7);
         c.due("a forged one by its stamp", x.older(0, 1), 0);
         c.due("a worn one", x.older(7, 2), 2);
+        OldestCoins edges = made("5y0,5y9f0,5y50w,5y50b,5y99,5y0f99", "");
+        c.due("a worn one and the first year", edges.older(0, 2), 2);
+        c.due("a worn one and the first stamp", edges.older(1, 2), 2);
+        c.due("a bent one and the last year", edges.older(3, 4), 4);
+        c.due("a bent one and the last stamp", edges.older(3, 5), 5);
         c.due("a bent one", x.older(3, 9), 9);
         c.due("as old", x.older(0, 4), 0);
         c.due("as old", x.older(4, 0), 0);
@@ -249,6 +254,12 @@ public final class PromisesTest {
                 c.due("told " + coin + " " + what, x.told(coin, what), due[coin][what]);
             }
         }
+        c.due("paid first", x.of(5, 2), 2);
+        c.due("paid first", made("5y5", "").of(0, 2), 0);
+        OldestCoins two = made("5y5", "");
+        c.due("paid first", two.of(0, 2), 0);
+        c.due("purse", Check.purseOf(two, 0, "5y6,5y4"), 2);
+        c.due("paid first", two.of(0, 2), 2);
         Check.typed(x, "5y1");
         c.due("BAD", x.purse(8), BAD);
         c.due("BAD", x.purse(-1), BAD);
@@ -526,6 +537,12 @@ public final class PromisesTest {
         c.row("nothing is changed", Check.holders(x), 0, 0, 1);
         OldestCoins y = made("3y1,3y2,3y3", "");
         c.due("the least number", y.lent(0, 4, 6, 1, 4, 3), 0);
+        OldestCoins z = made("3y1,5y2,2y3", "");
+        c.due("one even with none, one with a coin", z.lent(0, 4, 3, 3, 5, 3), NONE);
+        c.due("one even with none, two with a coin", z.lent(0, 4, 3, 3, 5, 5), 1);
+        c.due("two even with a later coin, one with the first", z.lent(0, 4, 3, 3, 5, 2), 2);
+        c.due("the second one alone", z.lent(0, 4, 999, 3, 5, 2), 2);
+        c.due("the first one alone", z.lent(0, 4, 7, 3, 5, 999), 0);
         int[][] wrong = {{-1, 4, 1, 1, 4, 1}, {4, 4, 1, 1, 4, 1}, {0, 3, 1, 1, 4, 1}, {0, 8, 1, 1, 4, 1}, {0, 4, 0, 1, 4, 1},
             {0, 4, 1000, 1, 4, 1}, {0, 4, 1, -1, 4, 1}, {0, 4, 1, 4, 4, 1}, {0, 4, 1, 1, 3, 1}, {0, 4, 1, 1, 8, 1},
             {0, 4, 1, 1, 4, 0}, {0, 4, 1, 1, 4, 1000}, {1, 4, 1, 1, 4, 1}};
@@ -628,6 +645,8 @@ public final class PromisesTest {
         Check.dayOf(v, "0>4:1,0>5:5");
         // As it is: 5 due: 1, 2 come, the 4 is too much: 3, the second is not run; with the 4 newest: 4, 1 come: it is.
         c.due("a bill that is not run, none are paid", v.shows(1, 99), 1);
+        Check.dayOf(v, "0>4:1,0>5:7,3>5:1");
+        c.due("not run by both", v.shows(1, 99), NONE);
     }
 
     private static void promise26And27() {
@@ -668,6 +687,19 @@ public final class PromisesTest {
         y.coin(0, 1, 1, 0);
         c.due("restore", y.restore(), 1);
         c.due("number", y.count(0), 0);
+        OldestCoins z = made("3y5", "");
+        z.image();
+        z.coin(0, 3, 1, 0);
+        c.due("paid first", z.of(0, 2), 1);
+        z.restore();
+        c.due("paid first", z.of(0, 2), 0);
+        z.coin(0, 3, 9, 0);
+        z.coin(0, 3, 2, 0);
+        c.due("paid first", z.of(0, 2), 2);
+        z.restore();
+        z.coin(1, 3, 9, 0);
+        c.due("paid first", z.of(0, 2), 0);
+        c.due("paid first", z.of(1, 2), 1);
     }
 
     private static void promise28() {
@@ -702,6 +734,10 @@ public final class PromisesTest {
         c.due("INDEX", x.seen(0, 1, Integer.MAX_VALUE, 4, 6, 2, 1, 0), INDEX);
         c.due("INDEX", x.seen(0, 1, Integer.MIN_VALUE, 4, 6, 2, 1, 0), INDEX);
         c.due("NOT, a worth of 0", x.seen(0, 1, 0, 4, 6, 2, 1, 0), NOT);
+        x.item(0, 1, 5, 99);
+        c.due("a worth of 99", x.seen(0, 1, 5, 1, 1, 1, 98, 0), 0);
+        c.due("all four, 999 is too much", x.seen(0, 1, 2, 4, 999, 4, 0, 0), NONE);
+        x.item(0, 1, 5, 100);
         c.due("NOT, a worth of 100", x.seen(0, 1, 2, 4, 6, 2, 1, 0), NOT);
     }
 
