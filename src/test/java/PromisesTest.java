@@ -346,6 +346,23 @@ public final class PromisesTest {
         OldestCoins w = made("9y50", "3y9,3y9,2y9b,3y0w");
         c.due("newest of the till, worn ones last", w.bill(0, 4, 1), 8);
         c.row("holders", Check.holders(w), 4, 0, 0, 0, 4);
+        OldestCoins all = new OldestCoins();
+        for (int i = 0; i < 40; i++) {
+            all.coin(3, 1, i, 0);
+        }
+        c.due("40 even sums", all.even(3, 39), 40);
+        c.due("all 40 go", all.bill(3, 7, 40), 0);
+        c.due("all 40 are there", all.of(7, 1), 40);
+        all.give(0, 3);
+        all.stamp(0, 50);
+        c.due("NOT MET", all.bill(3, 7, 2), NOT);
+        OldestCoins back = new OldestCoins();
+        back.coin(2, 99, 0, 0);
+        for (int i = 1; i < 40; i++) {
+            back.coin(6, 1, i, 0);
+        }
+        c.due("39 come back", back.bill(2, 6, 60), 39);
+        c.due("39 are there", back.of(2, 0), 39);
         int[][] wrong = {{-1, 4, 1}, {4, 4, 1}, {0, 3, 1}, {0, 8, 1}, {0, 4, 0}, {0, 4, 1000}, {0, 4, -1}};
         for (int[] b : wrong) {
             c.due("BAD", x.bill(b[0], b[1], b[2]), BAD);
