@@ -7,7 +7,7 @@ import java.util.Random;
 /** Random runs of calls, on an object and on the Model at once: all answers must be the same. */
 public final class ModelTest {
     private static final int RUNS = 1500;
-    private static final int CALLS = 512;
+    private static final int STEPS = 512;
     private static final int[] EXTREMES = {Integer.MIN_VALUE, Integer.MIN_VALUE + 1, -100001, -2, -1, 0, 1, 3, 4, 7, 8, 24, 25,
         39, 40, 50, 51, 63, 64, 99, 100, 160, 999, 1000, Integer.MAX_VALUE - 1, Integer.MAX_VALUE};
     private static final Method[] CALLED = called();
@@ -30,7 +30,7 @@ public final class ModelTest {
         for (int seed = 1; seed <= RUNS && wrong < 5; seed++) {
             wrong += new ModelTest(seed).goesWrong(seed) ? 1 : 0;
         }
-        System.out.println(RUNS + " runs of " + CALLS + " calls against the model, " + wrong + " went wrong");
+        System.out.println(RUNS + " runs of " + STEPS + " steps (a call, a text typed and read, or none) against the model, " + wrong + " went wrong");
         if (wrong != 0) {
             System.exit(1);
         }
@@ -47,7 +47,7 @@ public final class ModelTest {
 
     private boolean goesWrong(int seed) throws Exception {
         boolean good = seed % 4 == 0 || begun();
-        for (int i = 0; i < CALLS; i++) {
+        for (int i = 0; i < STEPS; i++) {
             good = good && step();
             if (!good) {
                 int from = Math.max(0, trace.size() - 60);
